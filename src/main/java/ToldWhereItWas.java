@@ -1253,17 +1253,26 @@ public final class ToldWhereItWas {
             }
         }
 
+        /** Asks the kinds themselves, as tale would, because calls may not stand open too deep. */
         private boolean settle(int t) {
-            int old = owner[t];
-            int longest = hasOne(old) ? tale(old, t) : 0;
+            int ownersTale = 0;
+            int longest = 0;
+            int teller = NOBODY;
             for (int p = 0; p < people; p++) {
-                int tale = tale(p, t);
-                if (tale > longest) {
+                int facts = knows[p * THINGS + t];
+                int tale = kinds[kind[p]].tells(figure[p], facts & truth[t], facts & ~truth[t]);
+                if (p == owner[t]) {
+                    ownersTale = tale;
+                } else if (tale > longest) {
                     longest = tale;
-                    owner[t] = p;
+                    teller = p;
                 }
             }
-            return owner[t] != old;
+            if (longest <= ownersTale) {
+                return false;
+            }
+            owner[t] = teller;
+            return true;
         }
     }
 
