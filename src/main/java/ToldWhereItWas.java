@@ -1096,6 +1096,7 @@ public final class ToldWhereItWas {
             return true;
         }
 
+        /** Nobody has had his number yet, or the image has taken it back: so he knows nothing. */
         boolean arrive(int newKind, int newFigure, int care) {
             if (people >= MOST_PEOPLE || !within(newKind, KINDS - 1)
                 || !within(newFigure, FIGURES - 1) || !isCare(care)) {
@@ -1104,10 +1105,6 @@ public final class ToldWhereItWas {
             kind[people] = newKind;
             figure[people] = newFigure;
             caresFor[people] = care;
-            // An image may have been restored over one who knew things under this number.
-            for (int t = 0; t < THINGS; t++) {
-                knows[people * THINGS + t] = 0;
-            }
             people++;
             return true;
         }

@@ -209,6 +209,11 @@ public final class PromiseTest {
         due("DAY above 999", tell(x, sixteen + "d40;"), -2064);
         due("no DAY went", x.count(1), 0);
         due("up to DAY 999", tell(x, sixteen + "d39;"), 17);
+        String longest = "c00;".repeat(25);
+        due("100 bytes", tell(new ToldWhereItWas(), "p009;" + longest.substring(0, 95)), -1100);
+        due("100 bytes", tell(new ToldWhereItWas(), "p009;" + longest.substring(0, 92) + "p00"), -1100);
+        due("100 bytes", tell(new ToldWhereItWas(), "p009;l0000;" + longest.substring(0, 88) + "d"), -1100);
+        due("100 bytes of statements", tell(townOf("p009;"), longest), 25);
         due("DAY", x.count(1), 999);
         due("one DAY more", tell(x, "p000;d01;"), -2005);
         due("nobody came", x.count(0), 0);
@@ -437,6 +442,15 @@ public final class PromiseTest {
         ToldWhereItWas y = townOf("p100;l0011;");
         y.days(14);
         due("on DAY 14 he LEARNS ahead of FORGETTING", y.story(0, 0, 0), 63);
+        for (int greatest = 1; greatest < 12; greatest++) {
+            for (int other = 0; other < greatest; other++) {
+                ToldWhereItWas z = townOf("d06;p109;");
+                z.learns(0, 3, greatest);
+                z.learns(0, 3, other);
+                z.days(1);
+                due("of " + other + " and " + greatest + " he KNOWS", z.story(0, 3, 0), 1 << other);
+            }
+        }
     }
 
     private static void ownersByDays() {
@@ -453,6 +467,29 @@ public final class PromiseTest {
         x.past(2, 0);
         x.days(1);
         due("OWNER without a STORY", x.thing(2, 2), 1);
+        ToldWhereItWas y = townOf("t000011;p009;l0000;o00;p209;l1001;l1002;l1003;l1004;d01;");
+        due("a LIAR by FALSE ones", y.thing(0, 2), 1);
+    }
+
+    /** A town of seven MEN who CARE for nothing; the last KNOWS the most of THING 4, and of THING 0 the first alone. */
+    private static ToldWhereItWas sevenMen() {
+        ToldWhereItWas x = townOf("p009;p009;p009;p009;p009;p009;p009;");
+        for (int p = 0; p < 7; p++) {
+            for (int fact = 0; fact <= p; fact++) {
+                x.learns(p, 4, fact);
+            }
+        }
+        x.learns(0, 0, 0);
+        return x;
+    }
+
+    /** An OLD one who loses a FACT of THING 0 on every DAY that 7 divides, and all 9 by DAY 63, to a MAN who KNOWS one. */
+    private static ToldWhereItWas slowLoser(int day) {
+        ToldWhereItWas x = townOf("d0" + day + ";p109;p009;o00;l1000;");
+        for (int fact = 0; fact < 9; fact++) {
+            x.learns(0, 0, fact);
+        }
+        return x;
     }
 
     // ---- promises 12 to 22
@@ -519,6 +556,8 @@ public final class PromiseTest {
         due("no such THING", x.when(0, -1), -1);
         ToldWhereItWas y = townOf("p009;l0000;o00;p001;");
         due("not by caring for another", y.when(1, 0), -4);
+        due("behind 60 DAYS", slowLoser(3).when(1, 0), 60);
+        due("behind 61 DAYS: never", slowLoser(2).when(1, 0), -4);
     }
 
     private static void loses() {
@@ -527,6 +566,8 @@ public final class PromiseTest {
         due("nobody's", x.loses(1), -4);
         x.gives(1, 0);
         due("never", x.loses(1), -4);
+        due("behind 60 DAYS", slowLoser(3).loses(0), 60);
+        due("behind 61 DAYS: never", slowLoser(2).loses(0), -4);
         due("no such THING", x.loses(5), -1);
         due("no such THING", x.loses(-1), -1);
     }
@@ -572,6 +613,12 @@ public final class PromiseTest {
         ToldWhereItWas z = townOf("p009;l0000;l0001;l0002;l0003;l0004;l0005;l0006;l0007;l0008;l0009;l0010;");
         tell(z, "l0011;p149;");
         due("an OLD one needs all", z.win(1, 0), 12);
+        due("the first of seven", sevenMen().win(0, 4), 7);
+        due("the last of seven", sevenMen().win(6, 4), 0);
+        ToldWhereItWas v = townOf("p009;p009;l0000;t000011;");
+        due("FACT 0 is all that is TRUE", v.win(1, 0), -4);
+        v.past(0, 3);
+        due("FACTS 0 and 1", v.win(1, 0), 2);
         due("no such one", x.win(1, 0), -1);
         due("no such THING", x.win(0, 5), -1);
         due("no such THING", x.win(0, -1), -1);
@@ -593,6 +640,8 @@ public final class PromiseTest {
         due("no such THING", x.ask(0, -1), -1);
         ToldWhereItWas y = townOf("p209;p009;l1000;l1001;t000001;");
         due("a LIAR gains by FALSE ones", y.ask(0, 0), 1);
+        due("the last of seven", sevenMen().ask(0, 4), 6);
+        due("the first of seven", sevenMen().ask(6, 0), 0);
     }
 
     private static void care() {
@@ -611,6 +660,10 @@ public final class PromiseTest {
         due("nobody for THING 0, so that he is left", y.care(0), -4);
         due("THING 4", y.care(4), 0);
         due("how much", y.care(-1), 1);
+        due("seven of them: the last and the first", sevenMen().care(-1), 8);
+        due("the first", sevenMen().care(0), 0);
+        due("the least of those left", sevenMen().care(3), 3);
+        due("the last", sevenMen().care(4), 6);
         due("nobody there", new ToldWhereItWas().care(0), -4);
         due("nobody there", new ToldWhereItWas().care(-1), 0);
         due("below -1", x.care(-2), -1);
@@ -632,6 +685,12 @@ public final class PromiseTest {
         due("LONGEST", x.richest(2), 21);
         due("nobody", new ToldWhereItWas().richest(0), -4);
         due("nobody has anything", townOf("p009;").richest(0), 0);
+        due("UNOWNED of nobody", new ToldWhereItWas().richest(1), 31);
+        due("LONGEST of the first for THING 0", townOf("p009;l0000;").richest(2), 0);
+        due("LONGEST of seven", sevenMen().richest(2), 64);
+        ToldWhereItWas y = sevenMen();
+        y.gives(0, 6);
+        due("the last of seven", y.richest(0), 6);
         due("no such what", x.richest(4), -1);
         due("no such what", x.richest(-1), -1);
     }
@@ -647,6 +706,28 @@ public final class PromiseTest {
         due("lost on DAY 7", y.richest(3), 7);
         ToldWhereItWas z = townOf("t000031;p199;l0000;l0001;o00;p009;l1000;");
         due("lost on DAY 14, none within 10", z.richest(3), 0);
+        // A DOWAGER who has 6, and 0 on DAYS 7, 14, 15, 21, ..: then the MAN has THING 0.
+        due("never STILL", townOf("t000011;p490;p009;l1000;").richest(3), -4);
+        // THING 1 is lost on DAY 14, THING 0 on DAY 3 or 4.
+        String old = "p109;l0100;l0101;o10;p009;l1100;l1000;l1001;o01;p000;";
+        due("10 DAYS from DAY 3 on", townOf(old).richest(3), 3);
+        due("9 DAYS from DAY 4 on", townOf(old + "l1002;").richest(3), 14);
+        due("the last change behind 50 DAYS", eightChanges(6).richest(3), 50);
+        due("the last change behind 51 DAYS", eightChanges(5).richest(3), -4);
+    }
+
+    /** THINGS 0 .. 3 go from the DOWAGER to the OLD one to the MAN on DAYS 7 and 14, 21 and 28, 35 and 42, 49 and 56. */
+    private static ToldWhereItWas eightChanges(int day) {
+        ToldWhereItWas x = townOf("d0" + day + ";p499;p199;p009;l2000;l2100;l2200;l2300;o00;o10;o20;o30;");
+        for (int t = 0; t < 4; t++) {
+            for (int fact = 0; fact < 2 * t + 2; fact++) {
+                x.learns(1, t, fact);
+                if (fact < 2 * t + 1) {
+                    x.learns(0, t, fact);
+                }
+            }
+        }
+        return x;
     }
 
     private static void common() {
@@ -662,6 +743,14 @@ public final class PromiseTest {
         due("COMMON of nobody", new ToldWhereItWas().common(0, 0), 0);
         due("COMMON of one", townOf("p709;l0411;").common(4, 0), 2048);
         due("SECRET of one", townOf("p709;l0411;").common(4, 1), 2048);
+        due("SECRET of the first of seven", sevenMen().common(0, 1), 1);
+        due("SECRET of the last of seven", sevenMen().common(4, 1), 64);
+        due("COMMON of seven", sevenMen().common(4, 0), 1);
+        due("LOST of seven", sevenMen().common(4, 2), 4095 - 127);
+        ToldWhereItWas y = sevenMen();
+        due("RIVALS: 1 .. 7", y.common(4, 3), 0);
+        y.past(4, 1);
+        due("RIVALS: 1 seven times", y.common(4, 3), 21);
         due("no such THING", x.common(5, 0), -1);
         due("no such THING", x.common(-1, 0), -1);
         due("no such what", x.common(0, 4), -1);
@@ -761,6 +850,11 @@ public final class PromiseTest {
         ToldWhereItWas z = townOf("p009;p209;t140959;");
         due("the LIAR has it anyway", z.two(0, 1, 1, 1), 1);
         due("told the other way", z.two(1, 0, 1, 1), 10);
+        // 1 has THING 1, and keeps it by caring; 0 wins it by caring alone: one of them always wants to do otherwise.
+        ToldWhereItWas v = townOf("p009;p009;l1100;o11;t140955;");
+        due("none", v.two(0, 1, 1, 2), -4);
+        due("none, told the other way", v.two(1, 0, 1, 2), -4);
+        due("too few DAYS for 0", v.two(0, 1, 1, 1), 0);
         due("they CARE as before", z.one(1, 2), 9);
         due("one twice", x.two(0, 0, 0, 1), -1);
         due("no such one", x.two(0, 2, 0, 1), -1);
@@ -792,6 +886,17 @@ public final class PromiseTest {
         x.learns(1, 0, 5);
         due("always", x.floods(1, 0, 3, 2, 0), 1);
         due("always", x.floods(1, 0, 3, 2, 1), 1);
+        ToldWhereItWas y = sevenMen();
+        y.learns(6, 2, 0);
+        due("the last of seven, above", y.floods(6, 2, 1, 4, 0), 3);
+        due("the last of seven, below", y.floods(6, 2, 1, 4, 1), 4);
+        y.learns(0, 2, 5);
+        y.learns(0, 2, 7);
+        y.learns(6, 2, 3);
+        y.learns(6, 2, 9);
+        // By a flood FACT 0 is forgotten by the last, and FACT 5 by the first: 2 to 1.
+        due("the least FACT of each", y.floods(6, 2, 1, 4, 0), 1);
+        due("the least FACT of each", y.floods(6, 2, 1, 4, 1), 1);
         long refused = 1000000001L;
         due("no such one", x.floods(2, 0, 1, 2, 0), refused);
         due("no such THING", x.floods(0, 5, 1, 2, 0), refused);
@@ -879,6 +984,14 @@ public final class PromiseTest {
         due("of no other", y.years(20, -7, 1), 0);
         due("CARES as before", x.one(0, 2), 9);
         due("TRUE as before", x.thing(2, 0), 4095);
+        // 454 of THING 0: FACTS 1, 2, 6, 7, 8 are TRUE.
+        due("FACT 2 is TRUE", townOf("p009;l0002;").years(1, 1, 0), 2);
+        due("FACT 2 makes another OWNER of THING 0", townOf("p009;l0002;").years(1, 1, 1), 2);
+        due("FACT 3 is FALSE", townOf("p009;l0003;").years(1, 1, 0), 1);
+        // 1662 of THING 1: FACTS 1 and 2 are TRUE; on DAYS 7 and 14 the OLD one FORGETS them. 8 DAYS end on DAY 13.
+        ToldWhereItWas z = townOf("p109;l0101;l0102;o10;p009;l1101;d05;");
+        due("OWNED behind 8 DAYS", z.years(1, 1, 0), 3);
+        due("others behind 8 DAYS", z.years(1, 1, 1), 2);
         due("no years", x.years(0, 1, 0), -1);
         due("too many years", x.years(21, 1, 0), -1);
         due("no such what", x.years(1, 1, 2), -1);
@@ -1037,6 +1150,9 @@ public final class PromiseTest {
         x.keep(3, 1, 0, 0);
         due("one, no ROW", x.copy(3, 0, 0, 0, 1), -12);
         due("one, no ROW", x.copy(0, 0, 3, 0, 1), -12);
+        rowOf(x, 5, 0, 1, 2);
+        due("one, no ROW of bytes", x.copy(3, 0, 5, 0, 0), -12);
+        due("one, no ROW of bytes", x.copy(5, 0, 3, 0, 0), -12);
         due("nothing goes before another kind", x.copy(3, 0, 4, 0, 1), -11);
         due("nothing there", x.copy(4, 0, 0, 0, 1), -11);
         due("no such shelf", x.copy(4, 0, 8, 0, 1), -1);
