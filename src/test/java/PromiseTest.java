@@ -1038,6 +1038,7 @@ public final class PromiseTest {
         due("OWNED THINGS", x.count(2), 1 + 2 + 8);
         due("all WORTH", x.count(3), 13);
         due("FACTS known", x.count(4), 3);
+        due("FACTS known of seven", sevenMen().count(4), 29);
         due("no such what", x.count(5), -1);
         due("no such what", x.count(-1), -1);
     }
