@@ -2,10 +2,11 @@ import java.util.ArrayList;
 import java.util.List;
 import java.util.Random;
 
-/** Long runs of drawn calls, each answered as SlowTown answers it. The draws have fixed seeds. */
+/** Runs of drawn calls, each answered as SlowTown answers it. The draws have fixed seeds. */
 public final class SecondTellingTest {
-    private static final int RUNS = 1500;
-    private static final int CALLS = 250;
+    private static final int RUNS = 6000;
+    /** An object is used for at most 512 calls: what is left is enough for a last row, a last call and a last look. */
+    private static final int CALLS = 512 - 200;
     private static final int CALL_KINDS = 46;
 
     private final ToldWhereItWas fast = new ToldWhereItWas();
@@ -13,6 +14,7 @@ public final class SecondTellingTest {
     private final Random random;
     private final List<String> calls = new ArrayList<>();
     private String call;
+    private int spent = 0;
 
     private SecondTellingTest(long seed) {
         random = new Random(seed);
@@ -20,13 +22,40 @@ public final class SecondTellingTest {
 
     public static void main(String[] args) {
         for (int run = 0; run < RUNS; run++) {
-            SecondTellingTest test = new SecondTellingTest(run);
-            for (int i = 0; i < CALLS; i++) {
-                if (!test.step()) {
-                    System.exit(1);
-                }
+            if (!new SecondTellingTest(run).fits()) {
+                System.exit(1);
             }
         }
+    }
+
+    private boolean fits() {
+        if (random.nextInt(6) == 0) {
+            beginLate();
+        }
+        while (spent < CALLS) {
+            if (!step()) {
+                return false;
+            }
+        }
+        return same() || report("what there is then is not the same");
+    }
+
+    /** So that some runs come to the last DAY. */
+    private void beginLate() {
+        for (int i = 0; i < 16; i++) {
+            calls.add("days(60)");
+            fast.days(60);
+            slow.days(60);
+            spent++;
+        }
+    }
+
+    private boolean report(String what) {
+        for (String line : calls) {
+            System.out.println(line);
+        }
+        System.out.println("the last one: " + what);
+        return false;
     }
 
     // ---- numbers, mostly as told, sometimes not
@@ -69,23 +98,15 @@ public final class SecondTellingTest {
     // ---- one call
 
     private boolean step() {
-        long got;
-        long want;
         int k = random.nextInt(CALL_KINDS);
         long seed = random.nextLong();
         random.setSeed(seed);
-        got = answer(k, true);
+        long got = answer(k, true);
         random.setSeed(seed);
-        want = answer(k, false);
+        long want = answer(k, false);
         calls.add(call + " = " + got);
-        if (got == want && same()) {
-            return true;
-        }
-        for (String line : calls) {
-            System.out.println(line);
-        }
-        System.out.println("the last one: due is " + want + (got == want ? ", and what there is then is not the same" : ""));
-        return false;
+        spent++;
+        return got == want || report("due is " + want);
     }
 
     private boolean same() {
@@ -219,6 +240,7 @@ public final class SecondTellingTest {
 
     private void onShelf(int d, int sort, int[] elements, boolean f) {
         if (f) {
+            spent += 1 + elements.length;
             fast.row(d, sort, elements.length);
         } else {
             slow.row(d, sort, elements.length);
