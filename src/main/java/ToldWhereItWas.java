@@ -454,7 +454,7 @@ public final class ToldWhereItWas {
             below *= u;
         }
         mind.takeFrom(now);
-        return partOf(floodWays(0, n, u, p, t), below, part);
+        return partOf(floodWays(minds, 0, n, u, p, t), below, part);
     }
 
     public long share(int p, int part) {
@@ -811,20 +811,20 @@ public final class ToldWhereItWas {
         return true;
     }
 
-    /** In how many of u to the power of the DAYS left one is the OWNER at last, from the town in mind at this depth. */
-    private long floodWays(int depth, int left, int u, int p, int t) {
-        Town here = minds[depth];
+    /** In how many of u to the power of the DAYS left one is the OWNER at last, from the town at this depth on. */
+    private static long floodWays(Town[] towns, int depth, int left, int u, int p, int t) {
+        Town here = towns[depth];
         if (left <= 0 || depth >= MOST_FLOODS) {
             return here.owner[t] == p ? 1 : 0;
         }
-        Town next = minds[depth + 1];
+        Town next = towns[depth + 1];
         next.takeFrom(here);
         next.pass();
-        long dry = floodWays(depth + 1, left - 1, u, p, t);
+        long dry = floodWays(towns, depth + 1, left - 1, u, p, t);
         next.takeFrom(here);
         next.flood();
         next.pass();
-        return (u - 1) * dry + floodWays(depth + 1, left - 1, u, p, t);
+        return (u - 1) * dry + floodWays(towns, depth + 1, left - 1, u, p, t);
     }
 
     private static long partOf(long above, long below, int part) {

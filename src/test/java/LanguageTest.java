@@ -32,6 +32,10 @@ public final class LanguageTest {
             + "|NullPointerException|ArithmeticException|ClassCastException|NegativeArraySizeException|ArrayStoreException)\\b",
         "\\bimport (?!java\\.util\\.(Arrays|ArrayList|List|Iterator);)", "^package "};
 
+    private static final Pattern METHOD_HEAD =
+        Pattern.compile("    (    )?(?!if |for |while |do |switch |try )[A-Za-z].*\\) (throws .*)?\\{");
+    private static final Pattern METHOD_NAME = Pattern.compile("(\\w+)\\(");
+
     private static int wrong = 0;
 
     public static void main(String[] args) throws IOException {
@@ -120,15 +124,31 @@ public final class LanguageTest {
         }
         int open = 0;
         int start = 0;
+        int methods = 0;
         String[] lines = source.split("\n");
         for (int i = 0; i < lines.length; i++) {
-            if (lines[i].matches("    (    )?[a-z].*\\) (throws .*)?\\{")) {
+            if (METHOD_HEAD.matcher(lines[i]).matches()) {
+                methods++;
                 start = i;
                 open = lines[i].indexOf(lines[i].trim());
             } else if (open > 0 && lines[i].matches(" {" + open + "}\\}")) {
                 must(i - start < 60, "a method stays short: " + lines[start].trim());
+                noRecursionButStatic(lines, start, i);
                 open = 0;
             }
+        }
+        must(methods > 100 && open == 0, "methods are found in the source: " + methods);
+    }
+
+    /** A method between two lines that calls itself by its bare name must be private and static. */
+    private static void noRecursionButStatic(String[] lines, int start, int end) {
+        Matcher head = METHOD_NAME.matcher(lines[start]);
+        if (!head.find() || lines[start].contains("private static ")) {
+            return;
+        }
+        Pattern itself = Pattern.compile("(?<![.\\w])" + head.group(1) + "\\(");
+        for (int i = start + 1; i < end; i++) {
+            must(!itself.matcher(lines[i]).find(), "only a private static method calls itself: " + lines[start].trim());
         }
     }
 }

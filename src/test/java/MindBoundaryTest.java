@@ -357,6 +357,39 @@ public final class MindBoundaryTest {
         due("lookAfter(0, 60, 0) where nothing is TRUE", x.lookAfter(0, 60, 0), 0);
     }
 
+    static void promise17_9IsBest() {
+        told("what one had best CARE for from now (0 .. 4, or 9, tried last) so that WORTH of what he OWNS is most");
+        ToldWhereItWas x = bestWithoutCare();
+        for (int t = 0; t < 5; t++) {
+            x.cares(0, t);
+            due("ownsThen(0, 13, 0), he CARES for " + t, x.ownsThen(0, 13, 0), 31 - (1 << t));
+        }
+        x.cares(0, 9);
+        due("ownsThen(0, 13, 0), he CARES for nothing", x.ownsThen(0, 13, 0), 31);
+        due("lookAfter(0, 13, 0)", x.lookAfter(0, 13, 0), 9);
+        due("lookAfter(0, 13, 1)", x.lookAfter(0, 13, 1), 5);
+        due("lookAfter(0, 12, 0)", x.lookAfter(0, 12, 0), 0);
+    }
+
+    /**
+     * On DAY 1 a town whose first one has all THINGS on DAY 14, but for the one for which he CARES. FACTS 0 and 10 are
+     * TRUE. Of each THING the last one, a DOWAGER, has a STORY of 3 until DAY 14, when she FORGETS her only TRUE FACT;
+     * he has 2, and so has then one of five OLD ones, who has learned of it: it becomes his, as he is the least. But if
+     * he CARES for it he has 3 on DAY 2, and so he OWNS it until, on DAY 7, he FORGETS FACT 10: then the OLD one has 3,
+     * OWNS it, and keeps it.
+     */
+    private static ToldWhereItWas bestWithoutCare() {
+        ToldWhereItWas x = townOf("d01;t010251;t110251;t210251;t310251;t410251;p139;p130;p131;p132;p133;p134;p409;");
+        for (int t = 0; t < 5; t++) {
+            x.learns(0, t, 0);
+            Boundary.teach(x, 0, t, 5, 6);
+            x.learns(1 + t, t, 11);
+            x.learns(6, t, 0);
+            x.learns(6, t, 11);
+        }
+        return x;
+    }
+
     static void promise17_hisCareNowIsOneOfThem() {
         told("what one had best CARE for from now");
         ToldWhereItWas x = townOf("p002;t040953;");

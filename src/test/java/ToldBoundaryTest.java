@@ -414,6 +414,16 @@ public final class ToldBoundaryTest {
         due("1 and 0", townOf("p009;p209;t040959;").two(1, 0, 0, 1), 10);
     }
 
+    static void promise25_bothTheOneAndTheOther() {
+        told("the first pair (10 the one's and the other's) by which neither has more by another choice alone");
+        // The MAN (3) wins THING 1 by caring for it. The first one has THING 0 on DAY 14 only if he does not CARE for
+        // it: if he does, he has it too early, FORGETS on DAY 7 what he learned, and loses it to 1, who keeps it.
+        ToldWhereItWas x = townOf("d01;t010255;t140955;p130;p130;p409;p009;l0000;l0005;l0006;l1011;l2000;l2011;");
+        due("two(3, 0, 1, 12)", x.two(3, 0, 1, 12), 10);
+        due("two(3, 0, 1, 13)", x.two(3, 0, 1, 13), 11);
+        due("two(0, 3, 1, 13)", x.two(0, 3, 1, 13), 11);
+    }
+
     static void promise25_theFirstOfSeveralPairs() {
         told("the first pair (10 the one's and the other's) by which neither has more by another choice alone");
         due("all four are fit: 0 and 0", townOf("p709;p709;t040950;").two(0, 1, 0, 1), 0);
